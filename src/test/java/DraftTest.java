@@ -99,7 +99,7 @@ public final class DraftTest {
             {"0 0>1:5", 2}, {"0>11:5", 3}, {"0>1 1:5", 4}, {"0>1:5;0>1:5", 5}, {",", 0}, {"0>1:5,,", 6}, {"0>1:-5", 4},
             {"0>1:+5", 4}, {"0>1:5\t", 5}, {"\t0>1:5", 0}, {"0>1:5" + (char) 160, 5}, {"0>1:5" + (char) 0, 5}, {"/>1:5", 0},
             {":>1:5", 0}, {"0>/:5", 2}, {"0>1:/", 4}, {"0>1::", 4}, {"0>1:5,8>1:5", 6}, {"0>1:5, 1>2:0 ,x", 11},
-            {"0>>1:5", 2}, {"x", 0}, {"" + (char) 255, 0}};
+            {"0>>1:5", 2}, {">1:5", 0}, {"0>:5", 2}, {"0>1,5", 3}, {"x", 0}, {"" + (char) 255, 0}};
         for (Object[] row : bad) {
             fault(x, (String) row[0], (Integer) row[1]);
         }
@@ -154,6 +154,8 @@ public final class DraftTest {
         due(5, "flow of a full draft", x.flow(0, 0, 1), Checks.FULL);
         due(5, "flow(0, 0, 0) of a full draft", x.flow(0, 0, 0), Checks.BAD_VALUE);
         due(5, "flow(8, 0, 0) of a full draft", x.flow(8, 0, 0), Checks.BAD_INDEX);
+        due(5, "a flow without room is not saved", x.undo(), 5);
+        due(5, "undo() took back the flow before", x.flow(1, 2, 16), 16);
         x.addGroup(0, 1, 0);
         due(5, "flowCount(0)", x.flowCount(0), 16);
         due(5, "sender", x.flowPart(0, 0, 0), 7);

@@ -13,6 +13,7 @@ public final class ForetellingTest {
         totalLimit();
         bestPolicy();
         bestOrder();
+        eachOrderIsBestOnce();
         bestOrderOfNone();
         bestOrderErrors();
         bestOrderIsFoundAnew();
@@ -79,6 +80,11 @@ public final class ForetellingTest {
         due(29, "total(0)", x.total(0), 5);
         due(29, "total(1)", x.total(1), 7);
         due(29, "total(0) whatever the policy is", x.setPolicy(1) + x.total(0), 5);
+        CoflowSimulator weighted = new CoflowSimulator();
+        Checks.group(weighted, "0>0:200", 0, 1, 0);
+        Checks.group(weighted, "0>0:300", 0, 2, 0);
+        due(29, "total(0) by spans", weighted.total(0), 2 + 5);
+        due(29, "total(5) by weights", weighted.total(5), 3 + 5);
         x.setRules(true, true);
         Checks.group(x, "0>1:5000", 0, 1, 1);
         due(29, "total(0) with a rejected group", x.total(0), 5);
@@ -161,6 +167,15 @@ public final class ForetellingTest {
         due(29, "total(2): the wide group last", z.total(2), 17);
         due(29, "total(3): the wide group last", z.total(3), 17);
         due(30, "bestPolicy() is not 0", z.bestPolicy(), 2);
+
+        CoflowSimulator outdone = new CoflowSimulator();
+        Checks.group(outdone, "0>0:200,1>1:200,2>2:200,3>3:200");
+        Checks.group(outdone, "0>0:300,0>4:1,0>5:1,0>6:1,0>7:1,0>4:500");
+        Checks.group(outdone, "1>1:300,1>4:1,1>5:1,1>6:1,1>7:1,1>5:500");
+        Checks.group(outdone, "2>2:300,2>4:1,2>5:1,2>6:1,2>7:1,2>6:500");
+        outdone.setPolicy(1);
+        due(31, "bestOrder()", outdone.bestOrder() <= outdone.total(outdone.bestPolicy()) ? 1 : 0, 1);
+        due(30, "bestPolicy() is a policy", outdone.bestPolicy() < 6 ? 1 : 0, 1);
         z.setCapacity(0, 0);
         due(30, "bestPolicy() without totals", z.bestPolicy(), Checks.NONE);
     }
@@ -191,6 +206,13 @@ public final class ForetellingTest {
         x.pass(100);
         due(31, "bestOrder() when all are done", x.bestOrder(), Checks.BAD_STATE);
 
+        CoflowSimulator w = new CoflowSimulator();
+        Checks.group(w, "0>0:400");
+        Checks.group(w, "0>0:300");
+        Checks.group(w, "0>0:200");
+        Checks.group(w, "0>0:100");
+        best(w, "that is the last one", 1 + 3 + 6 + 10, 3, 2, 1, 0);
+
         CoflowSimulator y = new CoflowSimulator();
         Checks.group(y, "0>0:200");
         Checks.group(y, "0>0:200");
@@ -203,6 +225,30 @@ public final class ForetellingTest {
         Checks.group(z, "0>0:9999", 0, 1, 1);
         best(z, "with deadlines off, and a rejected group", 5, 1, 0);
         due(29, "total(0) with deadlines on", z.total(0), 102);
+    }
+
+    /** For each order of four groups, their sizes are such that this order alone is the best. */
+    private static void eachOrderIsBestOnce() {
+        for (int code = 0; code < 256; code++) {
+            int[] order = {code & 3, code >> 2 & 3, code >> 4 & 3, code >> 6};
+            int[] size = new int[4];
+            for (int i = 0; i < 4; i++) {
+                size[order[i]] = 100 * (i + 1);
+            }
+            if (size[0] == 0 || size[1] == 0 || size[2] == 0 || size[3] == 0) {
+                continue;
+            }
+            CoflowSimulator x = new CoflowSimulator();
+            Checks.group(x, "7>7:100");
+            for (int i = 0; i < 4; i++) {
+                Checks.group(x, "0>0:" + size[i]);
+            }
+            x.setCapacity(0, 0);
+            x.pass(1);
+            x.setCapacity(0, 100);
+            best(x, "of sizes by " + code, 1 + 4 + 1 + 3 + 6 + 10, order[0] + 1, order[1] + 1, order[2] + 1, order[3] + 1);
+            due(30, "bestPolicy() behind bestOrder()", x.bestPolicy(), 0);
+        }
     }
 
     private static void bestOrderOfNone() {
@@ -275,6 +321,11 @@ public final class ForetellingTest {
         due(33, "bound() with another capacity", x.bound(), 67);
         x.setCapacity(2, 0);
         due(33, "bound() without capacity", x.bound(), Checks.NONE);
+        CoflowSimulator one = new CoflowSimulator();
+        Checks.group(one, "0>0:1");
+        due(33, "bound() of a unit", one.bound(), 1);
+        one.setCapacity(8, 0);
+        due(33, "bound() of a unit without capacity", one.bound(), Checks.NONE);
         x.setCapacity(2, 1000);
         x.setRules(false, true);
         x.pass(1);

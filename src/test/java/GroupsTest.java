@@ -18,7 +18,9 @@ public final class GroupsTest {
         rest();
         level();
         loneSpan();
+        loneSpanOfWhatIsLeft();
         loneSpanByTrial();
+        fullHouse();
         CHECKS.finish();
     }
 
@@ -227,6 +229,59 @@ public final class GroupsTest {
         x.setCapacity(10, 100);
         x.setCapacity(7, 0);
         due(23, "loneSpan(0) without capacity of another port", x.loneSpan(0), 3);
+    }
+
+    private static void loneSpanOfWhatIsLeft() {
+        CoflowSimulator x = new CoflowSimulator();
+        Checks.group(x, "0>0:10,0>1:500,1>2:10");
+        x.pass(1);
+        due(23, "rest(0)", x.rest(0), 410);
+        x.setCapacity(0, 1);
+        x.setCapacity(8, 0);
+        x.setCapacity(1, 0);
+        due(23, "flows that are done need no capacity", x.loneSpan(0), 410);
+        due(25, "flows that are done need no capacity", x.nextSpan(0), 410);
+        x.pass(1);
+        due(12, "rest(0)", x.rest(0), 409);
+    }
+
+    /** Twelve groups of sixteen flows, all of the greatest size. */
+    private static void fullHouse() {
+        CoflowSimulator x = new CoflowSimulator();
+        x.setRules(true, true);
+        Checks.setAll(x, 1000);
+        for (int group = 0; group < 12; group++) {
+            for (int flow = 0; flow < 16; flow++) {
+                x.flow(flow % 8, (group + flow) % 8, 100000);
+            }
+            due(8, "addGroup", x.addGroup(0, 1, 10000), group);
+        }
+        for (int group = 0; group < 12; group++) {
+            due(16, "state(" + group + ")", x.state(group), 1);
+            due(21, "rest(" + group + ")", x.rest(group), 1600000);
+            due(22, "level(" + group + ")", x.level(group), 0);
+            due(23, "loneSpan(" + group + ")", x.loneSpan(group), 200);
+            due(24, "place(" + group + ")", x.place(group), group);
+            due(29, "total", x.total(group % 6), Checks.NONE);
+        }
+        due(33, "bound()", x.bound(), 2400);
+        x.setRules(true, false);
+        due(12, "pass(200)", x.pass(200), 11);
+        due(18, "end(0)", x.end(0), 200);
+        due(33, "bound()", x.bound(), 2200);
+        x.pass(500);
+        x.pass(500);
+        due(28, "outlook(11)", x.outlook(11), Checks.NONE);
+        x.pass(200);
+        due(28, "outlook(11)", x.outlook(11), 2400);
+        x.pass(500);
+        due(12, "pass(500)", x.pass(500), 0);
+        due(18, "end(11)", x.end(11), 2400);
+        due(22, "level(11)", x.level(11), 4);
+        for (int port = 0; port < 16; port++) {
+            due(34, "moved(" + port + ")", x.moved(port), 2400000);
+        }
+        due(29, "total(0)", x.total(0), 200 * 78);
     }
 
     /** The least G is sought one by one. */

@@ -107,6 +107,7 @@ public final class HappenedTest {
         Checks.group(x, "2>2:500", 1, 1, 2);
         Checks.group(x, "3>3:300", 0, 1, 0);
         Checks.group(x, "4>4:900", 9, 1, 1);
+        Checks.group(x, "5>5:900", 2, 1, 0);
         x.pass(3);
         due(36, "eventCount()", x.eventCount(), 4);
         latest(x, 3, 1, 1, 3);
@@ -118,14 +119,14 @@ public final class HappenedTest {
         x.setRules(true, true);
         Checks.group(x, "0>0:100000", 0, 1, 3);
         due(36, "eventCount() with a rejected group", x.eventCount(), 5);
-        latest(x, 0, 3, 5, 4);
+        latest(x, 0, 3, 6, 4);
         x.pass(3);
         due(36, "no end of the deadline of a rejected group", x.eventCount(), 7);
         latest(x, 1, 1, 0, 5);
         latest(x, 0, 1, 2, 6);
         x.undo();
         due(36, "eventCount() behind undo", x.eventCount(), 5);
-        latest(x, 0, 3, 5, 4);
+        latest(x, 0, 3, 6, 4);
     }
 
     private static void eventsAreKept() {
@@ -145,6 +146,16 @@ public final class HappenedTest {
             latest(x, back, 2, back % 2, 25 - back);
         }
         due(37, "event(20, 0)", x.event(20, 0), Checks.BAD_INDEX);
+        for (int i = 0; i < 3; i++) {
+            Checks.group(x, "7>7:1");
+        }
+        x.pass(1);
+        latest(x, 0, 1, 4, 27);
+        latest(x, 19, 2, 1, 10);
+        x.undo();
+        for (int back = 0; back < 20; back++) {
+            latest(x, back, 2, back % 2, 25 - back);
+        }
     }
 
     private static void event() {

@@ -115,6 +115,10 @@ public final class NextTickTest {
         order(x, "with deadlines on, by policy 2", 2, 4, 5, 1, 0, 3);
         Checks.passIdle(x, 100);
         order(x, "behind all deadlines", 2, 4, 5, 1, 0, 3);
+        x.setRules(true, false);
+        Checks.group(x, "6>6:90", 0, 1, 1);
+        x.setRules(true, true);
+        order(x, "with a deadline of 1", 2, 4, 5, 1, 6, 0, 3);
     }
 
     private static void placeOfOthers() {

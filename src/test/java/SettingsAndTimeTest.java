@@ -61,6 +61,8 @@ public final class SettingsAndTimeTest {
         due(8, "addGroup without room", x.addGroup(0, 1, 0), Checks.FULL);
         due(8, "wrong addGroup without room", x.addGroup(0, 0, 0), Checks.BAD_VALUE);
         due(8, "groupCount()", x.groupCount(), 12);
+        due(8, "a group without room is not saved", x.undo(), 5);
+        due(8, "undo() took back the flow before", x.flow(0, 0, 1), 1);
         x.pass(1);
         due(8, "done groups keep their room", x.addGroup(0, 1, 0), Checks.FULL);
         due(8, "the draft stays", x.flow(0, 0, 1), 2);
@@ -139,6 +141,16 @@ public final class SettingsAndTimeTest {
         x.pass(2);
         due(8, "group 0 is done", x.state(0), 2);
         due(8, "done groups don't count", stateOfNew(x, "0>1:1000", 0, 10), 1);
+
+        CoflowSimulator late = withDeadlines();
+        Checks.group(late, "0>0:70,1>2:40,1>1:20", 0, 1, 1);
+        due(8, "each flow of a group counts", stateOfNew(late, "1>3:400", 0, 10), 1);
+        due(8, "each flow of a group counts at its ports", stateOfNew(late, "1>3:401", 0, 10), 3);
+        due(8, "each flow of a group counts at its ports", stateOfNew(late, "3>2:600", 0, 10), 1);
+        due(8, "each flow of a group counts at its ports", stateOfNew(late, "3>2:601", 0, 10), 3);
+        late.setCapacity(0, 0);
+        due(8, "with a deadline beside what is overfull", stateOfNew(late, "3>3:1", 0, 10), 3);
+        due(8, "without a deadline beside what is overfull", stateOfNew(late, "3>3:1", 0, 0), 1);
 
         CoflowSimulator y = withDeadlines();
         Checks.group(y, "0>0:600", 100, 1, 10);
