@@ -169,13 +169,12 @@ public final class ForetellingTest {
         due(30, "bestPolicy() is not 0", z.bestPolicy(), 2);
 
         CoflowSimulator outdone = new CoflowSimulator();
-        Checks.group(outdone, "0>0:200,1>1:200,2>2:200,3>3:200");
-        Checks.group(outdone, "0>0:300,0>4:1,0>5:1,0>6:1,0>7:1,0>4:500");
-        Checks.group(outdone, "1>1:300,1>4:1,1>5:1,1>6:1,1>7:1,1>5:500");
-        Checks.group(outdone, "2>2:300,2>4:1,2>5:1,2>6:1,2>7:1,2>6:500");
-        outdone.setPolicy(1);
-        due(31, "bestOrder()", outdone.bestOrder() <= outdone.total(outdone.bestPolicy()) ? 1 : 0, 1);
-        due(30, "bestPolicy() is a policy", outdone.bestPolicy() < 6 ? 1 : 0, 1);
+        Checks.group(outdone, "1>0:400,0>1:300");
+        Checks.group(outdone, "0>1:200,0>0:100");
+        Checks.group(outdone, "1>0:400,0>1:100");
+        best(outdone, "that no policy finds", 18, 2, 1, 0);
+        due(30, "bestPolicy() is a policy", outdone.bestPolicy(), 0);
+        due(29, "total(0)", outdone.total(0), 19);
         z.setCapacity(0, 0);
         due(30, "bestPolicy() without totals", z.bestPolicy(), Checks.NONE);
     }

@@ -274,7 +274,10 @@ public final class GroupsTest {
         due(28, "outlook(11)", x.outlook(11), Checks.NONE);
         x.pass(200);
         due(28, "outlook(11)", x.outlook(11), 2400);
-        x.pass(500);
+        due(12, "pass(500)", x.pass(500), 3);
+        due(31, "bestOrder()", x.bestOrder(), Checks.NONE);
+        due(32, "bestOrderAt(0)", x.bestOrderAt(0), 9);
+        due(32, "bestOrderAt(2)", x.bestOrderAt(2), 11);
         due(12, "pass(500)", x.pass(500), 0);
         due(18, "end(11)", x.end(11), 2400);
         due(22, "level(11)", x.level(11), 4);
