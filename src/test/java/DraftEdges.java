@@ -54,8 +54,8 @@ final class DraftEdges {
     }
 
     private void newObject() {
-        CoflowSimulator x = edges.says(1, "Creates a simulator without groups, with an empty draft and an empty text, at time 0, "
-                + "with the policy 0.");
+        CoflowSimulator x = edges.says(1, "Creates a simulator without groups, with an empty draft and an empty text, at "
+                + "time 0, with the policy 0.");
         edges.due("groupCount()", x.groupCount(), 0);
         edges.due("state(0)", x.state(0), Edges.BAD_INDEX);
         edges.due("time()", x.time(), 0);
@@ -68,8 +68,8 @@ final class DraftEdges {
         edges.due("setPolicy(5)", x.setPolicy(5), 0);
         edges.due("setPolicy(0) of another new object", new CoflowSimulator().setPolicy(0), 0);
 
-        edges.says(0, "NONE = -1, BAD_INDEX = -2, BAD_VALUE = -3, BAD_STATE = -4, FULL = -5: NONE: there is none. "
-                + "The others are error codes.");
+        edges.says(0, "NONE = -1, BAD_INDEX = -2, BAD_VALUE = -3, BAD_STATE = -4, FULL = -5: NONE: there is none. The "
+                + "others are error codes.");
         edges.due("NONE", CoflowSimulator.NONE, -1);
         edges.due("BAD_INDEX", CoflowSimulator.BAD_INDEX, -2);
         edges.due("BAD_VALUE", CoflowSimulator.BAD_VALUE, -3);
@@ -78,7 +78,8 @@ final class DraftEdges {
     }
 
     private void draft() {
-        CoflowSimulator x = edges.says(0, "There is a draft: a list of at most 16 flows, at first empty, that the next group gets.");
+        CoflowSimulator x = edges.says(0, "There is a draft: a list of at most 16 flows, at first empty, that the next "
+                + "group gets.");
         edges.due("dropDraft()", x.dropDraft(), 0);
         fillDraft(x, 15);
         edges.due("the 16th flow", x.flow(3, 4, 5), 16);

@@ -42,8 +42,8 @@ final class ForetellingEdges {
     }
 
     private void untilNoneIsOpen() {
-        CoflowSimulator x = edges.says(0, "The total of a policy is found on a copy of the whole state that has this policy: ticks are "
-                + "done until no group is waiting or active;");
+        CoflowSimulator x = edges.says(0, "The total of a policy is found on a copy of the whole state that has this "
+                + "policy: ticks are done until no group is waiting or active;");
         edges.due("total(0) without groups", x.total(0), 0);
         Checks.group(x, "0>0:300");
         Checks.group(x, "0>1:50");
@@ -84,8 +84,8 @@ final class ForetellingEdges {
     }
 
     private void sums() {
-        CoflowSimulator x = edges.says(0, "Otherwise it is the sum of (end minus arrival time) of all groups that are done then, also of "
-                + "those that are done now.");
+        CoflowSimulator x = edges.says(0, "Otherwise it is the sum of (end minus arrival time) of all groups that are "
+                + "done then, also of those that are done now.");
         x.setRules(true, true);
         x.pass(3);
         Checks.group(x, "0>0:200");
@@ -102,8 +102,8 @@ final class ForetellingEdges {
     }
 
     private void fixedOrder() {
-        CoflowSimulator x = edges.says(0, "For a fixed order of groups, ticks are done on a copy in the same way, but in step 1 the active "
-                + "groups are always put in this order, and deadlines are off.");
+        CoflowSimulator x = edges.says(0, "For a fixed order of groups, ticks are done on a copy in the same way, but in "
+                + "step 1 the active groups are always put in this order, and deadlines are off.");
         x.setRules(false, true);
         Checks.group(x, "0>0:300", 0, 1, 100);
         Checks.group(x, "0>0:100");
@@ -125,8 +125,8 @@ final class ForetellingEdges {
     }
 
     private void oneToFourGroups() {
-        CoflowSimulator x = edges.says(0, "The best order is that of all groups that are waiting or active now, of which there must be 1 to "
-                + "4, whose total is least ");
+        CoflowSimulator x = edges.says(0, "The best order is that of all groups that are waiting or active now, of which "
+                + "there must be 1 to 4, whose total is least ");
         edges.due("no group", x.bestOrder(), Edges.BAD_STATE);
         int[] totals = {1, 3, 6, 10};
         for (int many = 1; many <= 4; many++) {
@@ -187,8 +187,8 @@ final class ForetellingEdges {
     }
 
     private void outlook() {
-        CoflowSimulator x = edges.says(28, "Tells when a group will be done, if nothing is added or set: does up to 1000 ticks on a copy of "
-                + "the whole state.");
+        CoflowSimulator x = edges.says(28, "Tells when a group will be done, if nothing is added or set: does up to 1000 "
+                + "ticks on a copy of the whole state.");
         Checks.group(x, "0>0:100000");
         Checks.group(x, "1>1:100000,1>2:1");
         Checks.group(x, "2>3:100", 999, 1, 0);
@@ -384,8 +384,9 @@ final class ForetellingEdges {
     }
 
     private void bound() {
-        CoflowSimulator x = edges.says(33, "Returns a bound: the greatest value, over all ports, of (sum of the rests of all flows that use "
-                + "the port, of groups that are waiting or active) / (capacity of the port), rounded up.");
+        CoflowSimulator x = edges.says(33, "Returns a bound: the greatest value, over all ports, of (sum of the rests of "
+                + "all flows that use the port, of groups that are waiting or active) / (capacity of the port), rounded "
+                + "up.");
         Checks.group(x, "0>0:200,0>1:100");
         edges.due("300 / 100 at sender 0", x.bound(), 3);
         Checks.group(x, "1>0:101", 1000, 1, 0);

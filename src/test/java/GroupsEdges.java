@@ -273,8 +273,8 @@ final class GroupsEdges {
         }
         edges.due("flowPart(0, 1, 2) of two flows", x.flowPart(0, 1, 2), 40);
 
-        x = edges.says(20, "what: 0 its sender, 1 its receiver, 2 its size, 3 its rest, 4 its rate in the latest tick (0 if there "
-                + "was none since it was added)");
+        x = edges.says(20, "what: 0 its sender, 1 its receiver, 2 its size, 3 its rest, 4 its rate in the latest tick (0 "
+                + "if there was none since it was added)");
         x.pass(1);
         Checks.group(x, "7>6:150,2>3:40");
         parts("before a tick", x, 0, 0, 7, 6, 150, 150, 0);
@@ -300,7 +300,8 @@ final class GroupsEdges {
         parts("of the greatest size", x, 0, 1, 7, 0, 100000, 100000, 0);
         edges.says(20, "BAD_INDEX if there is no such group or flow;");
         groupsOnly("flowPart with a wrong property", (y, group) -> y.flowPart(group, 0, group == 0 || group == 2 ? 0 : 5));
-        groupsOnly("flowPart with a wrong flow", (y, group) -> y.flowPart(group, group == 0 || group == 2 || group == 11 ? 0 : 99, 0));
+        groupsOnly("flowPart with a wrong flow",
+                (y, group) -> y.flowPart(group, group == 0 || group == 2 || group == 11 ? 0 : 99, 0));
         edges.refused("flowPart(0, 1, 5) of one flow", y -> Checks.group(y, "0>0:5"), y -> y.flowPart(0, 1, 5), Edges.BAD_INDEX);
         edges.says(20, "BAD_VALUE if what is out of range.");
         for (int what : new int[] {-1, 5, Integer.MIN_VALUE, Integer.MAX_VALUE}) {
@@ -341,8 +342,8 @@ final class GroupsEdges {
     }
 
     private void level() {
-        CoflowSimulator x = edges.says(0, "The level of a group is the number of the thresholds 100, 1000, 10000 and 100000 that are "
-                + "not greater than what it has sent in all.");
+        CoflowSimulator x = edges.says(0, "The level of a group is the number of the thresholds 100, 1000, 10000 and "
+                + "100000 that are not greater than what it has sent in all.");
         Checks.group(x, "1>1:100000,1>1:50");
         int[] units = {99, 1, 1, 898, 1, 1, 998, 1000, 1000, 1000, 1000, 1000, 1000, 1000, 1000, 1, 1};
         int sent = 0;
@@ -396,8 +397,8 @@ final class GroupsEdges {
     }
 
     private void leastSpan() {
-        edges.says(0, "Each of the 16 ports has an available capacity. The span of a group with given available capacities is the "
-                + "least positive int G such that for each port the sum of the rates r / G, rounded up, ");
+        edges.says(0, "Each of the 16 ports has an available capacity. The span of a group with given available "
+                + "capacities is the least positive int G such that for each port the sum of the rates r / G, rounded up, ");
         span("0>0:1", 1, 1);
         span("0>0:1", 1000, 1);
         span("0>0:100", 100, 1);
@@ -423,8 +424,8 @@ final class GroupsEdges {
     }
 
     private void spanOfWhatIsNotDone() {
-        CoflowSimulator x = edges.says(0, "over all its flows that use this port and are not done, where r is the rest of the flow, is "
-                + "at most the available capacity of the port;");
+        CoflowSimulator x = edges.says(0, "over all its flows that use this port and are not done, where r is the rest of "
+                + "the flow, is at most the available capacity of the port;");
         Checks.group(x, "0>0:10,0>1:500,1>2:10");
         x.pass(1);
         edges.due("the rest", x.rest(0), 410);
@@ -447,8 +448,8 @@ final class GroupsEdges {
     }
 
     private void noSpan() {
-        CoflowSimulator x = edges.says(0, "it is NONE if there is no such G (because a port has less available capacity than flows that "
-                + "are not done).");
+        CoflowSimulator x = edges.says(0, "it is NONE if there is no such G (because a port has less available capacity "
+                + "than flows that are not done).");
         span("0>0:1", 0, Edges.NONE);
         span("0>0:1,0>1:1", 1, Edges.NONE);
         span("0>0:1,0>1:1", 2, 1);

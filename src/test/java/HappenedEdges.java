@@ -41,7 +41,8 @@ final class HappenedEdges {
     }
 
     private void doneEvents() {
-        CoflowSimulator x = edges.says(0, "An event has a kind, a group and a time: 1: a group is done (the time is its end);");
+        CoflowSimulator x = edges.says(0, "An event has a kind, a group and a time: 1: a group is done (the time is its "
+                + "end);");
         Checks.group(x, "0>0:200");
         x.pass(1);
         edges.due("eventCount() before it is done", x.eventCount(), 0);
@@ -54,8 +55,8 @@ final class HappenedEdges {
     }
 
     private void preemptionEvents() {
-        CoflowSimulator x = edges.says(0, "2: a preemption (the group is the one that was first in the tick before; the time is that at the "
-                + "beginning of the tick);");
+        CoflowSimulator x = edges.says(0, "2: a preemption (the group is the one that was first in the tick before; the "
+                + "time is that at the beginning of the tick);");
         Checks.group(x, "0>0:1000");
         x.pass(3);
         Checks.group(x, "0>0:300");
@@ -108,6 +109,14 @@ final class HappenedEdges {
         off.pass(1);
         edges.due("eventCount() with deadlines off, of one group with and one without a deadline", off.eventCount(), 1);
         latest(off, 0, 4, 0, 1);
+        CoflowSimulator arriving = new CoflowSimulator();
+        Checks.group(arriving, "0>0:500", 1, 1, 0);
+        Checks.group(arriving, "1>1:500", 1, 1, 1);
+        arriving.pass(1);
+        edges.due("eventCount() at the arrival, without a deadline and with one", arriving.eventCount(), 0);
+        arriving.pass(1);
+        edges.due("eventCount() a tick behind the arrival", arriving.eventCount(), 1);
+        latest(arriving, 0, 4, 1, 2);
         CoflowSimulator refused = new CoflowSimulator();
         refused.setRules(true, true);
         Checks.group(refused, "0>0:101", 0, 1, 1);
@@ -116,8 +125,8 @@ final class HappenedEdges {
     }
 
     private void lateEventsInOrder() {
-        CoflowSimulator x = edges.says(0, "(after step 4 of a tick; all events 1 of the tick come first, and those of kind 4 in ascending order "
-                + "of the groups).");
+        CoflowSimulator x = edges.says(0, "(after step 4 of a tick; all events 1 of the tick come first, and those of "
+                + "kind 4 in ascending order of the groups).");
         Checks.group(x, "0>0:900", 0, 1, 3);
         Checks.group(x, "1>1:100", 2, 1, 1);
         Checks.group(x, "2>2:800", 1, 1, 2);
@@ -281,8 +290,8 @@ final class HappenedEdges {
     }
 
     private void digestOfNew() {
-        CoflowSimulator x = edges.says(38, "Returns a hash of the state. It begins with h = 17; for each of the following numbers v, in this "
-                + "order, h becomes 31 * h + v (long arithmetic, with overflow): ");
+        CoflowSimulator x = edges.says(38, "Returns a hash of the state. It begins with h = 17; for each of the following "
+                + "numbers v, in this order, h becomes 31 * h + v (long arithmetic, with overflow): ");
         long hash = mixed(17, 0, 0, 1, 0, 0);
         for (int port = 0; port < 16; port++) {
             hash = mixed(hash, 100, 0);
@@ -317,10 +326,11 @@ final class HappenedEdges {
 
     /** A full draft, and twelve groups in all states, with more than twenty events. */
     private void digestOfFull() {
-        CoflowSimulator x = edges.says(38, "time(), the policy, 1 or 0 for spare sharing, 1 or 0 for deadlines, preemptions(); for each port "
-                + "its capacity and moved(); the number of flows of the draft, and for each of them its sender, receiver and size; for each "
-                + "group its state(), arrival(), weight, deadline, end(), and for each of its flows its sender, receiver, size, rest and "
-                + "rate in the latest tick; for each event, the oldest one first, its kind, group and time.");
+        CoflowSimulator x = edges.says(38, "time(), the policy, 1 or 0 for spare sharing, 1 or 0 for deadlines, "
+                + "preemptions(); for each port its capacity and moved(); the number of flows of the draft, and for each "
+                + "of them its sender, receiver and size; for each group its state(), arrival(), weight, deadline, end(), "
+                + "and for each of its flows its sender, receiver, size, rest and rate in the latest tick; for each "
+                + "event, the oldest one first, its kind, group and time.");
         int[] weights = new int[12];
         int[] deadlines = new int[12];
         preempt(x, 18);

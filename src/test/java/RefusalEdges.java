@@ -66,7 +66,8 @@ final class RefusalEdges {
     }
 
     private void codes() {
-        CoflowSimulator x = edges.says(0, "The error codes are BAD_INDEX (-2): there is no such port, group, flow or event; ");
+        CoflowSimulator x = edges.says(0, "The error codes are BAD_INDEX (-2): there is no such port, group, flow or "
+                + "event; ");
         Checks.group(x, "0>0:100");
         edges.due("no port", x.setCapacity(16, 5), -2);
         edges.due("no port", x.spare(16), -2);

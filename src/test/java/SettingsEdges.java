@@ -53,7 +53,8 @@ final class SettingsEdges {
     }
 
     private void capacities() {
-        CoflowSimulator x = edges.says(0, "These 16 ports have capacities, in units per tick, from 0 to 1000 (100 at first).");
+        CoflowSimulator x = edges.says(0, "These 16 ports have capacities, in units per tick, from 0 to 1000 (100 at "
+                + "first).");
         for (int port = 0; port < 16; port++) {
             edges.due("the first capacity of port " + port, x.setCapacity(port, 1000), 100);
             edges.due("setCapacity(" + port + ", 1001)", x.setCapacity(port, 1001), Edges.BAD_VALUE);
@@ -77,8 +78,8 @@ final class SettingsEdges {
     }
 
     private void weightsAndDeadlines() {
-        CoflowSimulator x = edges.says(0, "A group has an arrival time, a weight (1 to 100), a deadline (1 to 10000 ticks, or 0 "
-                + "for none), and 1 to 16 flows, numbered from 0.");
+        CoflowSimulator x = edges.says(0, "A group has an arrival time, a weight (1 to 100), a deadline (1 to 10000 "
+                + "ticks, or 0 for none), and 1 to 16 flows, numbered from 0.");
         edges.due("a group without flows", x.addGroup(0, 1, 0), Edges.BAD_STATE);
         oneFlow(x);
         edges.due("weight 0", x.addGroup(0, 0, 0), Edges.BAD_VALUE);
@@ -100,7 +101,8 @@ final class SettingsEdges {
     }
 
     private void twelveGroups() {
-        CoflowSimulator x = edges.says(0, "There are at most 12 groups, numbered from 0 in the order in which they were added.");
+        CoflowSimulator x = edges.says(0, "There are at most 12 groups, numbered from 0 in the order in which they were "
+                + "added.");
         for (int i = 0; i < 12; i++) {
             x.flow(0, 0, 500 - i);
             edges.due("the number of group " + i, x.addGroup(12 - i, 1, 0), i);
@@ -114,8 +116,8 @@ final class SettingsEdges {
     }
 
     private void addGroup() {
-        CoflowSimulator x = edges.says(8, "Makes a group of the flows of the draft, which is empty then; if deadlines are on and "
-                + "it has a deadline, it is admitted or rejected. Undoable.");
+        CoflowSimulator x = edges.says(8, "Makes a group of the flows of the draft, which is empty then; if deadlines are "
+                + "on and it has a deadline, it is admitted or rejected. Undoable.");
         x.flow(1, 2, 30);
         x.flow(3, 4, 50);
         x.addGroup(0, 1, 0);
@@ -235,8 +237,8 @@ final class SettingsEdges {
     }
 
     private void admittedOnlyIfItFits() {
-        CoflowSimulator x = edges.says(0, "When a group is added while deadlines are on, and it has a deadline d, it is admitted "
-                + "only if it fits:");
+        CoflowSimulator x = edges.says(0, "When a group is added while deadlines are on, and it has a deadline d, it is "
+                + "admitted only if it fits:");
         edges.due("with deadlines off", tried(x, 0, 0, 101, 1), 1);
         x.setRules(true, true);
         edges.due("with deadlines on, 101 in a tick", tried(x, 0, 0, 101, 1), 3);
@@ -293,8 +295,8 @@ final class SettingsEdges {
     }
 
     private void committedTime() {
-        edges.says(0, "be its rest / D, rounded up, where D is the time at which the deadline of that group ends minus the greater "
-                + "one of the time and its arrival time, if D is positive, and its rest otherwise.");
+        edges.says(0, "be its rest / D, rounded up, where D is the time at which the deadline of that group ends minus "
+                + "the greater one of the time and its arrival time, if D is positive, and its rest otherwise.");
         CoflowSimulator x = withDeadlines();
         Checks.setAll(x, 1000);
         Checks.group(x, "0>0:101", 2, 1, 4);
@@ -306,6 +308,12 @@ final class SettingsEdges {
             Checks.setAll(x, 0);
             x.pass(1);
         }
+        x = withDeadlines();
+        Checks.group(x, "0>0:30", 0, 1, 1);
+        justFits("beside 30 in a tick", x, 1, 700);
+        x = withDeadlines();
+        Checks.group(x, "0>0:100000", 0, 1, 10000);
+        justFits("beside 100000 in 10000 ticks", x, 1, 900);
         x = withDeadlines();
         Checks.group(x, "0>0:100", 0, 1, 10);
         justFits("beside 100 in 10 ticks", x, 1, 900);
@@ -321,8 +329,9 @@ final class SettingsEdges {
     }
 
     private void fits() {
-        CoflowSimulator x = edges.says(0, "The group fits if for each port the sum of all committed rates of flows that use it, "
-                + "and of size / d, rounded up, over the flows of the new group that use it, is at most its capacity.");
+        CoflowSimulator x = edges.says(0, "The group fits if for each port the sum of all committed rates of flows that "
+                + "use it, and of size / d, rounded up, over the flows of the new group that use it, is at most its "
+                + "capacity.");
         x.setRules(false, true);
         justFits("alone", x, 0, 1000);
         x.setCapacity(0, 1000);
@@ -351,6 +360,7 @@ final class SettingsEdges {
         edges.due("beside a full port that it doesn't use", tried(other, 0, 0, 1, 10), 1);
         other.setCapacity(15, 99);
         edges.due("beside an overfull port", tried(other, 0, 0, 1, 10), 3);
+        edges.due("beside an overfull port, without a deadline", tried(other, 0, 0, 1, 0), 1);
     }
 
     private void rejected() {
@@ -577,7 +587,8 @@ final class SettingsEdges {
     }
 
     private void time() {
-        CoflowSimulator x = edges.says(0, "Time goes in ticks; the time is the number of ticks that have passed (0 at first).");
+        CoflowSimulator x = edges.says(0, "Time goes in ticks; the time is the number of ticks that have passed (0 at "
+                + "first).");
         edges.due("time() of a new object", x.time(), 0);
         x.pass(1);
         edges.due("time() behind one tick", x.time(), 1);
@@ -605,8 +616,8 @@ final class SettingsEdges {
     }
 
     private void savedStates() {
-        edges.says(0, "The methods that are said to be undoable save the whole state, except the text, before each call that "
-                + "returns no error, even if it changes nothing.");
+        edges.says(0, "The methods that are said to be undoable save the whole state, except the text, before each call "
+                + "that returns no error, even if it changes nothing.");
         CoflowSimulator x = new CoflowSimulator();
         x.setCapacity(0, 100);
         x.setPolicy(0);
@@ -638,6 +649,28 @@ final class SettingsEdges {
             y.pass(1);
             y.flow(4, 4, 4);
         }, y -> y.pass(9), 0);
+        edges.undoable("pass(1) with a preemption", y -> {
+            Checks.group(y, "0>0:1000");
+            Checks.group(y, "0>0:800");
+            y.setPolicy(1);
+            y.pass(1);
+            y.setPolicy(0);
+        }, y -> y.pass(1), 2);
+        edges.undoable("pass(1) that pushes out events of another kind", y -> {
+            y.setRules(true, true);
+            for (int i = 0; i < 8; i++) {
+                Checks.group(y, "0>0:101", 0, 1, 1);
+            }
+            Checks.group(y, "0>0:100000");
+            Checks.group(y, "0>0:90000");
+            y.setPolicy(1);
+            y.pass(1);
+            for (int i = 1; i <= 12; i++) {
+                y.setPolicy(i % 2 == 0 ? 1 : 0);
+                y.pass(1);
+            }
+            Checks.group(y, "7>7:1");
+        }, y -> y.pass(1), 2);
     }
 
     private void sixStates() {

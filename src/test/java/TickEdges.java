@@ -37,8 +37,8 @@ final class TickEdges {
     }
 
     private void activeOnly() {
-        CoflowSimulator x = edges.says(0, "In each tick the following is done: 1: The groups that are active are put in an order by the "
-                + "policy;");
+        CoflowSimulator x = edges.says(0, "In each tick the following is done: 1: The groups that are active are put in "
+                + "an order by the policy;");
         x.setRules(true, true);
         Checks.group(x, "0>0:100");
         Checks.group(x, "0>0:101", 0, 1, 1);
@@ -161,7 +161,8 @@ final class TickEdges {
     }
 
     private void byWeightedSpan() {
-        CoflowSimulator x = edges.says(0, "5: by (lone span) / (weight), compared exactly as fractions, ascending, NONE last.");
+        CoflowSimulator x = edges.says(0, "5: by (lone span) / (weight), compared exactly as fractions, ascending, NONE "
+                + "last.");
         x.setPolicy(5);
         Checks.group(x, "0>0:100", 0, 3, 0);
         Checks.group(x, "1>1:3300", 0, 100, 0);
@@ -187,9 +188,9 @@ final class TickEdges {
     }
 
     private void byDeadline() {
-        CoflowSimulator x = edges.says(0, "With deadlines on (off at first), the groups that have a deadline come first, by the time at "
-                + "which it ends (arrival time plus deadline), ascending, before all other groups, which are in the order of the "
-                + "policy.");
+        CoflowSimulator x = edges.says(0, "With deadlines on (off at first), the groups that have a deadline come first, "
+                + "by the time at which it ends (arrival time plus deadline), ascending, before all other groups, which "
+                + "are in the order of the policy.");
         Checks.group(x, "0>0:1000");
         Checks.group(x, "1>1:900", 0, 1, 10000);
         Checks.group(x, "2>2:800", 0, 1, 9999);
@@ -237,8 +238,8 @@ final class TickEdges {
         edges.due("250 / 5", x.nextRate(0, 0), 50);
         edges.due("151 / 5, rounded up", x.nextRate(0, 1), 31);
 
-        x = edges.says(0, "For each group in this order, if its span with the available capacities is not NONE, its flows that are not "
-                + "done get the just rates, and the available capacities decrease by them;");
+        x = edges.says(0, "For each group in this order, if its span with the available capacities is not NONE, its flows "
+                + "that are not done get the just rates, and the available capacities decrease by them;");
         x.setRules(false, false);
         x.setPolicy(1);
         Checks.group(x, "0>0:99");
@@ -304,9 +305,9 @@ final class TickEdges {
     }
 
     private void untilTheDeadline() {
-        edges.says(0, "But with deadlines on, for a group that has a deadline, let G be the span, and D the time at which the deadline "
-                + "ends minus the time; if D is greater than G, the flows get r / D, rounded up, instead of the just rates, and the "
-                + "available capacities decrease by these.");
+        edges.says(0, "But with deadlines on, for a group that has a deadline, let G be the span, and D the time at which "
+                + "the deadline ends minus the time; if D is greater than G, the flows get r / D, rounded up, instead of "
+                + "the just rates, and the available capacities decrease by these.");
         int[][] rates = {{20, 15}, {7, 43}, {5, 60}, {4, 75}, {3, 100}, {2, 100}, {1, 100}, {0, 100}, {-1, 100}, {-50, 100}};
         for (int[] pair : rates) {
             edges.due("the rate with " + pair[0] + " ticks left", rateBefore(pair[0]), pair[1]);
@@ -331,9 +332,9 @@ final class TickEdges {
     }
 
     private void spareSharing() {
-        CoflowSimulator x = edges.says(0, "3: If spare sharing is on (on at first), for each group in this order, and each of its flows "
-                + "that is not done, in ascending order, the rate increases by the least of the available capacity of its sender, that "
-                + "of its receiver, and its rest minus its rate;");
+        CoflowSimulator x = edges.says(0, "3: If spare sharing is on (on at first), for each group in this order, and "
+                + "each of its flows that is not done, in ascending order, the rate increases by the least of the "
+                + "available capacity of its sender, that of its receiver, and its rest minus its rate;");
         x.setPolicy(1);
         Checks.group(x, "0>0:50,1>1:200");
         edges.due("25, and its rest minus its rate", x.nextRate(0, 0), 50);
@@ -402,8 +403,8 @@ final class TickEdges {
     }
 
     private void preemption() {
-        CoflowSimulator x = edges.says(0, "A preemption happens in a tick if the first group of the order is not the first group of the "
-                + "order of the tick before, and that group is still active (before step 2).");
+        CoflowSimulator x = edges.says(0, "A preemption happens in a tick if the first group of the order is not the "
+                + "first group of the order of the tick before, and that group is still active (before step 2).");
         Checks.group(x, "0>0:700");
         Checks.group(x, "0>1:701");
         x.pass(1);
@@ -437,7 +438,8 @@ final class TickEdges {
     }
 
     private void preemptionOverIdleTicks() {
-        CoflowSimulator x = edges.says(0, "Ticks in which no group is active have no order, and are skipped over in this comparison; ");
+        CoflowSimulator x = edges.says(0, "Ticks in which no group is active have no order, and are skipped over in this "
+                + "comparison; ");
         Checks.group(x, "0>0:100");
         x.pass(3);
         Checks.group(x, "1>1:300");
