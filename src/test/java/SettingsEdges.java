@@ -688,6 +688,21 @@ final class SettingsEdges {
         edges.due("digest() behind it", x.digest(), before[3]);
         edges.due("two flows are left", x.dropDraft(), 2);
         edges.due("undo() of the latest call alone", x.undo(), 0);
+        CoflowSimulator turning = new CoflowSimulator();
+        long[] latest = new long[40];
+        int next = 0;
+        for (int round = 0; round < 4; round++) {
+            for (int i = 0; i < 10; i++) {
+                latest[next] = turning.digest();
+                turning.pass(1);
+                next++;
+            }
+            for (int left = 5; left > round; left--) {
+                next--;
+                edges.due("undo() in round " + round, turning.undo(), left);
+                edges.due("digest() behind it", turning.digest(), latest[next]);
+            }
+        }
     }
 
     private void manyCalls() {
