@@ -9,10 +9,14 @@ final class Checks {
     private int wrong = 0;
 
     void due(int promise, String what, long got, long want) {
+        due("promise " + promise + ": " + what, got, want);
+    }
+
+    void due(String what, long got, long want) {
         answers++;
         if (got != want) {
             wrong++;
-            System.out.println("promise " + promise + ": " + what + " answered " + got + ", due is " + want);
+            System.out.println(what + " answered " + got + ", due is " + want);
         }
     }
 

@@ -8,9 +8,9 @@ import java.util.TreeMap;
 
 /** The sentences of ../shared/DOC.md, by section, and which of their words a test has quoted. */
 final class Document {
-    /** The section in front of the promises, which are numbered from 1. */
-    static final int DESCRIPTION = 0;
-    private static final int ELSEWHERE = -1;
+    /** The sections in front of the promises, which are numbered from 1; FormTest looks at the one of the face. */
+    static final int WHAT_IT_IS = -1, DESCRIPTION = 0;
+    private static final int ELSEWHERE = -2;
     private static final Path SOURCE = Path.of("../shared/DOC.md");
     /** Lines of the description that promise nothing; the examples are run by ExamplesTest. */
     private static final List<String> HEADINGS = List.of("Ports, groups and flows", "Undo, errors", "The constants:");
@@ -38,6 +38,9 @@ final class Document {
     }
 
     private static int sectionOf(String heading) {
+        if (heading.equals("## What it is")) {
+            return WHAT_IT_IS;
+        }
         if (heading.equals("## Description")) {
             return DESCRIPTION;
         }

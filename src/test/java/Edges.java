@@ -10,7 +10,7 @@ import java.util.function.ToLongFunction;
  */
 final class Edges {
     static final int NONE = -1, BAD_INDEX = -2, BAD_VALUE = -3, BAD_STATE = -4, FULL = -5;
-    static final int DESCRIPTION = Document.DESCRIPTION;
+    static final int WHAT_IT_IS = Document.WHAT_IT_IS, DESCRIPTION = Document.DESCRIPTION;
 
     private final Document document;
     private String sentence = "";
@@ -21,8 +21,8 @@ final class Edges {
 
     Edges() throws IOException {
         document = new Document();
-        if (document.sectionCount() != 39) {
-            fault("the document has " + document.sectionCount() + " sections, not the description and 38 promises");
+        if (document.sectionCount() != 40) {
+            fault("the document has " + document.sectionCount() + " sections, not what it is, the description and 38 promises");
         }
     }
 

@@ -4,6 +4,7 @@ import java.io.IOException;
 public final class EdgesTest {
     public static void main(String[] args) throws IOException {
         Edges edges = new Edges();
+        new OverviewEdges(edges).run();
         new DraftEdges(edges).run();
         new SettingsEdges(edges).run();
         new GroupsEdges(edges).run();

@@ -5,7 +5,6 @@ import java.lang.reflect.Method;
 import java.lang.reflect.Modifier;
 import java.nio.file.Files;
 import java.nio.file.Path;
-import java.util.List;
 import java.util.Set;
 import java.util.TreeSet;
 import java.util.regex.Matcher;
@@ -13,21 +12,15 @@ import java.util.regex.Pattern;
 
 /** The face of the class, and those rules of ../shared/LANGUAGE.md that can be seen from its text and its members. */
 public final class FormTest {
-    private static final List<String> FACE = List.of("int type(int)", "int clearText()", "int textFault()",
-            "int flow(int, int, int)", "int read()", "int dropDraft()", "int addGroup(int, int, int)",
-            "int setCapacity(int, int)", "int setPolicy(int)", "int setRules(boolean, boolean)", "int pass(int)", "int undo()",
-            "int time()", "int groupCount()", "int state(int)", "int arrival(int)", "int end(int)", "int flowCount(int)",
-            "int flowPart(int, int, int)", "int rest(int)", "int level(int)", "int loneSpan(int)", "int place(int)",
-            "int nextSpan(int)", "int nextRate(int, int)", "int spare(int)", "int outlook(int)", "int total(int)",
-            "int bestPolicy()", "int bestOrder()", "int bestOrderAt(int)", "int bound()", "int moved(int)",
-            "int preemptions()", "int eventCount()", "int event(int, int)", "long digest()");
-    private static final Set<String> CONSTANTS = Set.of("NONE", "BAD_INDEX", "BAD_VALUE", "BAD_STATE", "FULL");
     private static final Path SOURCE = Path.of("src/main/java/CoflowSimulator.java");
 
+    private static Face told;
     private static int checked = 0;
     private static int wrong = 0;
 
     public static void main(String[] args) throws IOException {
+        told = new Face();
+        listing();
         face();
         for (Class<?> inside : CoflowSimulator.class.getDeclaredClasses()) {
             classInside(inside);
@@ -49,6 +42,16 @@ public final class FormTest {
         }
     }
 
+    /** The document lists the face twice: as code, and promise by promise. */
+    private static void listing() {
+        must(told.calls.size() == 37 && told.constants.size() == 5, "the document's face is found");
+        Set<String> promised = new TreeSet<>();
+        for (Face.Call call : told.calls.values()) {
+            promised.add(call.type() + " " + call.signature());
+        }
+        must(promised.equals(told.listed), "the face as code and the promises: " + promised + ", " + told.listed);
+    }
+
     private static void face() {
         Class<?> face = CoflowSimulator.class;
         must(face.getModifiers() == (Modifier.PUBLIC | Modifier.FINAL), "rule 1: public and final");
@@ -60,20 +63,36 @@ public final class FormTest {
                 methods.add(method.toString().replaceAll("^public |CoflowSimulator\\.", "").replace(",", ", "));
             } else {
                 must(Modifier.isPrivate(method.getModifiers()), "rule 1: " + method + " is private");
+                must(!told.calls.containsKey(method.getName()), "rule 1: the name of " + method);
             }
         }
-        must(methods.equals(new TreeSet<>(FACE)), "rule 1: the methods of the face, not " + methods);
+        Set<String> due = new TreeSet<>();
+        told.calls.values().forEach(call -> due.add(call.withTypes()));
+        must(methods.equals(due), "rule 1: the methods of the face, not " + methods);
         Constructor<?>[] constructors = face.getDeclaredConstructors();
         must(constructors.length == 1 && constructors[0].getModifiers() == Modifier.PUBLIC
                 && constructors[0].getParameterCount() == 0, "rule 1: one public constructor");
         int own = 0;
+        int constants = 0;
         for (Field field : face.getDeclaredFields()) {
-            boolean constant = CONSTANTS.contains(field.getName());
+            boolean constant = told.constants.containsKey(field.getName());
             must(Modifier.isPrivate(field.getModifiers()) != constant, "rule 1: " + field + " is private or a constant");
+            must(!constant || isAsTold(field), "rule 1: " + field + " is a public constant with the document's value");
             staticsAreFinal(field);
             own += Modifier.isStatic(field.getModifiers()) ? 0 : 1;
+            constants += constant ? 1 : 0;
         }
+        must(constants == told.constants.size(), "rule 1: all constants of the face");
         must(own <= 20, "rule 11: some twenty fields");
+    }
+
+    private static boolean isAsTold(Field field) {
+        try {
+            return field.getModifiers() == (Modifier.PUBLIC | Modifier.STATIC | Modifier.FINAL) && field.getType() == int.class
+                    && field.getInt(null) == told.constants.get(field.getName());
+        } catch (IllegalAccessException hidden) {
+            return false;
+        }
     }
 
     private static void staticsAreFinal(Field field) {
@@ -89,12 +108,8 @@ public final class FormTest {
         must(!Modifier.isPublic(inside.getModifiers()) && !Modifier.isProtected(inside.getModifiers()),
                 "rule 1: " + inside + " is not public");
         must(inside.getDeclaredClasses().length == 0, "rule 2: " + inside + " has no class inside");
-        Set<String> names = new TreeSet<>();
-        for (String method : FACE) {
-            names.add(method.replaceAll("^\\w+ |\\(.*", ""));
-        }
         for (Method method : inside.getDeclaredMethods()) {
-            must(!names.contains(method.getName()), "rule 1: the name of " + method);
+            must(!told.calls.containsKey(method.getName()), "rule 1: the name of " + method);
             must(method.getParameterCount() <= 7, "rule 11: the parameters of " + method);
         }
         int own = 0;
