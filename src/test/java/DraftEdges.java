@@ -28,8 +28,8 @@ final class DraftEdges {
         dropDraft();
     }
 
-    private static CoflowSimulator withDraft(int flows) {
-        CoflowSimulator x = new CoflowSimulator();
+    private CoflowSimulator withDraft(int flows) {
+        CoflowSimulator x = edges.object();
         fillDraft(x, flows);
         return x;
     }
@@ -66,7 +66,7 @@ final class DraftEdges {
         edges.due("addGroup of an empty draft", x.addGroup(0, 1, 0), Edges.BAD_STATE);
         edges.due("dropDraft()", x.dropDraft(), 0);
         edges.due("setPolicy(5)", x.setPolicy(5), 0);
-        edges.due("setPolicy(0) of another new object", new CoflowSimulator().setPolicy(0), 0);
+        edges.due("setPolicy(0) of another new object", edges.object().setPolicy(0), 0);
 
         edges.says(0, "NONE = -1, BAD_INDEX = -2, BAD_VALUE = -3, BAD_STATE = -4, FULL = -5: NONE: there is none. The "
                 + "others are error codes.");
@@ -98,7 +98,7 @@ final class DraftEdges {
         String sixteen = "0>0:1,".repeat(15) + "0>0:1";
         String full = sixteen + " ".repeat(25);
         fault(full, Edges.NONE);
-        CoflowSimulator x = new CoflowSimulator();
+        CoflowSimulator x = edges.object();
         Checks.write(x, full);
         edges.due("the 121st byte", x.type(32), Edges.FULL);
         edges.due("read() of 120 bytes", x.read(), 16);
@@ -131,7 +131,7 @@ final class DraftEdges {
         edges.says(0, "a size is a number from 1 to 100000 with at most six digits:");
         String[] good = {"1", "9", "10", "99999", "100000", "01", "000001", "000009", "099999", "012345"};
         for (String size : good) {
-            CoflowSimulator x = new CoflowSimulator();
+            CoflowSimulator x = edges.object();
             Checks.group(x, "3>4:" + size);
             edges.due("the size of \"3>4:" + size + "\"", x.flowPart(0, 0, 2), Integer.parseInt(size));
         }
@@ -192,7 +192,7 @@ final class DraftEdges {
                 fault(head + (char) sign + tail, at);
             }
         }
-        CoflowSimulator x = new CoflowSimulator();
+        CoflowSimulator x = edges.object();
         Checks.group(x, "  0  >  1  :  23  ,  4  >  5  :  6  ");
         edges.due("flowCount(0)", x.flowCount(0), 2);
         edges.due("the first size", x.flowPart(0, 0, 2), 23);
@@ -302,7 +302,7 @@ final class DraftEdges {
 
         edges.says(2, "FULL if the text has 120 bytes.");
         edges.refused("type(53) of 120 bytes", y -> Checks.write(y, " ".repeat(115) + "0>1:5"), y -> y.type(53), Edges.FULL);
-        x = new CoflowSimulator();
+        x = edges.object();
         Checks.write(x, " ".repeat(119));
         edges.due("type(48) of 119 bytes", x.type(48), 120);
         edges.due("type(48) of 120 bytes", x.type(48), Edges.FULL);

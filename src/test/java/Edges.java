@@ -13,6 +13,7 @@ final class Edges {
     static final int WHAT_IT_IS = Document.WHAT_IT_IS, DESCRIPTION = Document.DESCRIPTION;
 
     private final Document document;
+    private boolean used = false;
     private String sentence = "";
     private int sentences = 0;
     private int answers = 0;
@@ -34,7 +35,41 @@ final class Edges {
         if (!document.quote(section, words)) {
             fault(sentence + " is not in the document");
         }
-        return new CoflowSimulator();
+        return object();
+    }
+
+    /** From now on the objects of the tests are used ones: of what has happened in them, all was undone. */
+    void takeUsedObjects() {
+        used = true;
+    }
+
+    CoflowSimulator object() {
+        return used ? usedObject() : new CoflowSimulator();
+    }
+
+    /**
+     * An object with which much has happened, and all of it was undone and cleared: it must answer as a new one does, so
+     * nothing may be left of its sixteen flows, groups, events and foretellings.
+     */
+    private static CoflowSimulator usedObject() {
+        CoflowSimulator x = new CoflowSimulator();
+        Checks.write(x, "7>6:99" + ",0>0:99".repeat(15));
+        x.read();
+        x.addGroup(0, 7, 5);
+        x.flow(0, 0, 100000);
+        x.addGroup(0, 1, 3);
+        x.pass(3);
+        x.setRules(false, true);
+        x.outlook(0);
+        x.total(0);
+        x.bestOrder();
+        x.nextRate(1, 0);
+        x.place(0);
+        for (int i = 0; i < 6; i++) {
+            x.undo();
+        }
+        x.clearText();
+        return x;
     }
 
     private void endSentence() {
@@ -59,7 +94,7 @@ final class Edges {
     /** The call must answer an error, and leave an object that can't be told from one without the call. */
     void refused(String what, Consumer<CoflowSimulator> before, ToLongFunction<CoflowSimulator> call, long code) {
         for (Consumer<Probe> probing : Probe.ALL) {
-            CoflowSimulator with = new CoflowSimulator();
+            CoflowSimulator with = object();
             CoflowSimulator without = new CoflowSimulator();
             before.accept(with);
             before.accept(without);
@@ -70,7 +105,7 @@ final class Edges {
 
     /** The call is saved, and undo brings back what was before it. */
     void undoable(String what, Consumer<CoflowSimulator> before, ToLongFunction<CoflowSimulator> call, long answer) {
-        CoflowSimulator with = new CoflowSimulator();
+        CoflowSimulator with = object();
         CoflowSimulator without = new CoflowSimulator();
         before.accept(with);
         before.accept(without);
@@ -79,7 +114,7 @@ final class Edges {
         due(what, call.applyAsLong(with), answer);
         due("undo() behind " + what, with.undo(), left);
         for (Consumer<Probe> probing : Probe.ALL) {
-            CoflowSimulator again = new CoflowSimulator();
+            CoflowSimulator again = object();
             CoflowSimulator never = new CoflowSimulator();
             before.accept(again);
             before.accept(never);
@@ -104,7 +139,7 @@ final class Edges {
         for (String words : document.leftOver()) {
             fault("no test quotes " + words);
         }
-        System.out.println(sentences + " sentences, " + answers + " answers, " + wrong + " faults");
+        System.out.println(sentences + " quotations, " + answers + " answers, " + wrong + " faults");
         if (wrong > 0 || answers == 0) {
             System.exit(1);
         }

@@ -4,6 +4,13 @@ import java.io.IOException;
 public final class EdgesTest {
     public static void main(String[] args) throws IOException {
         Edges edges = new Edges();
+        runAll(edges);
+        edges.takeUsedObjects();
+        runAll(edges);
+        edges.finish();
+    }
+
+    private static void runAll(Edges edges) {
         new OverviewEdges(edges).run();
         new DraftEdges(edges).run();
         new SettingsEdges(edges).run();
@@ -12,6 +19,5 @@ public final class EdgesTest {
         new ForetellingEdges(edges).run();
         new HappenedEdges(edges).run();
         new RefusalEdges(edges).run();
-        edges.finish();
     }
 }

@@ -32,8 +32,8 @@ final class ForetellingEdges {
     }
 
     /** Two groups of 100 ticks and one of ticks more: only if group 1 is first, all are done ticks behind the time 100. */
-    private static CoflowSimulator narrow(int units) {
-        CoflowSimulator x = new CoflowSimulator();
+    private CoflowSimulator narrow(int units) {
+        CoflowSimulator x = edges.object();
         x.setRules(false, false);
         Checks.group(x, "0>0:10000");
         Checks.group(x, "0>1:10000,1>2:10000", 0, 2, 0);
@@ -68,7 +68,7 @@ final class ForetellingEdges {
         edges.due("301 ticks", x.total(0), Edges.NONE);
         x.pass(1);
         edges.due("301 ticks, one of them done", x.total(0), 601);
-        CoflowSimulator y = new CoflowSimulator();
+        CoflowSimulator y = edges.object();
         Checks.group(y, "0>0:100", 299, 1, 0);
         edges.due("300 ticks, most of them idle", y.total(0), 1);
         Checks.group(y, "1>1:1", 300, 1, 0);
@@ -111,7 +111,7 @@ final class ForetellingEdges {
         edges.due("bestOrder() with deadlines off", x.bestOrder(), 5);
         edges.due("bestOrderAt(0)", x.bestOrderAt(0), 1);
         edges.due("deadlines are on all the same", x.setRules(true, true), 2);
-        CoflowSimulator y = new CoflowSimulator();
+        CoflowSimulator y = edges.object();
         Checks.group(y, "1>0:400,0>1:300");
         Checks.group(y, "0>1:200,0>0:100");
         Checks.group(y, "1>0:400,0>1:100");
@@ -167,7 +167,7 @@ final class ForetellingEdges {
         for (int i = 0; i < 4; i++) {
             edges.due("bestOrderAt(" + i + ") of equal groups", x.bestOrderAt(i), i);
         }
-        CoflowSimulator y = new CoflowSimulator();
+        CoflowSimulator y = edges.object();
         Checks.group(y, "0>0:200");
         Checks.group(y, "0>1:100");
         Checks.group(y, "1>2:100");
@@ -287,6 +287,16 @@ final class ForetellingEdges {
         long before = x.digest();
         edges.due("bestPolicy(), whatever the policy is", x.bestPolicy(), 2);
         edges.due("the digest behind it", x.digest(), before);
+        x = edges.object();
+        x.setRules(false, false);
+        Checks.group(x, "1>2:400,0>1:200", 2, 1, 0);
+        Checks.group(x, "0>1:400", 1, 1, 0);
+        for (int policy = 0; policy < 6; policy++) {
+            edges.due("total(" + policy + ")", x.total(policy), policy == 4 ? 12 : 11);
+        }
+        edges.due("bestPolicy() where an order is better than each policy", x.bestPolicy(), 0);
+        edges.due("the total of that order", x.bestOrder(), 10);
+        edges.due("bestPolicy() behind it", x.bestPolicy(), 0);
         x = edges.says(30, "Returns the policy, of several the lowest;");
         x.setPolicy(3);
         edges.due("bestPolicy() without groups", x.bestPolicy(), 0);
@@ -363,6 +373,13 @@ final class ForetellingEdges {
         for (int i = 0; i < 4; i++) {
             edges.due("bestOrderAt(" + i + ") when eight are done", x.bestOrderAt(i), 8 + i);
         }
+        for (int done = 9; done < 12; done++) {
+            x.pass(1);
+            edges.due("bestOrder() when " + done + " are done", x.bestOrder(), 78);
+            edges.due("bestOrderAt(0) when " + done + " are done", x.bestOrderAt(0), done);
+            edges.due("the last one when " + done + " are done", x.bestOrderAt(11 - done), 11);
+            edges.due("one more when " + done + " are done", x.bestOrderAt(12 - done), Edges.BAD_INDEX);
+        }
         edges.says(32, "BAD_INDEX if index is not from 0 to the number of groups that are waiting or active minus 1;");
         for (int many : new int[] {0, 1, 2, 3, 4, 5, 12}) {
             for (int index : new int[] {-1, many, many + 1, Integer.MIN_VALUE, Integer.MAX_VALUE}) {
@@ -417,7 +434,7 @@ final class ForetellingEdges {
         CoflowSimulator x = edges.says(33, "Returns the bound;");
         Checks.group(x, "0>0:1");
         edges.due("bound() of a unit", x.bound(), 1);
-        x = new CoflowSimulator();
+        x = edges.object();
         x.setCapacity(0, 1);
         for (int group = 0; group < 12; group++) {
             for (int flow = 0; flow < 16; flow++) {

@@ -49,9 +49,9 @@ final class GroupsEdges {
         }
         edges.refused(method + " of group 12 of twelve", GroupsEdges::twelveGroups, y -> question.ask(y, 12), Edges.BAD_INDEX);
         edges.refused(method + " of group 0 of none", y -> y.flow(0, 0, 1), y -> question.ask(y, 0), Edges.BAD_INDEX);
-        CoflowSimulator three = new CoflowSimulator();
+        CoflowSimulator three = edges.object();
         threeGroups(three);
-        CoflowSimulator twelve = new CoflowSimulator();
+        CoflowSimulator twelve = edges.object();
         twelveGroups(twelve);
         edges.due(method + " of group 0 of three", question.ask(three, 0) == Edges.BAD_INDEX ? 1 : 0, 0);
         edges.due(method + " of group 2 of three", question.ask(three, 2) == Edges.BAD_INDEX ? 1 : 0, 0);
@@ -389,7 +389,7 @@ final class GroupsEdges {
     }
 
     private void span(String flows, int capacity, int want) {
-        CoflowSimulator x = new CoflowSimulator();
+        CoflowSimulator x = edges.object();
         Checks.setAll(x, capacity);
         Checks.group(x, flows);
         edges.due("the span of " + flows + " with the capacity " + capacity, x.nextSpan(0), want);
@@ -419,8 +419,23 @@ final class GroupsEdges {
         span("0>0:5,0>1:5,0>2:6", 5, 5);
         span("0>0:5,0>1:5,0>2:6", 6, 3);
         span("0>0:50,1>1:300,2>2:10", 100, 3);
+        span("0>0:5,0>0:1", 2, 5);
+        span("0>0:7,0>0:9,0>0:7", 3, 9);
         span("0>1:250,0>2:150", 100, 5);
         span("0>1:250,0>2:151", 100, 5);
+        CoflowSimulator x = edges.object();
+        x.setCapacity(0, 1);
+        Checks.group(x, "0>0:1,1>1:100");
+        edges.due("the span at a port without a unit to spare, beside greater rests", x.loneSpan(0), 1);
+        Checks.group(x, "0>0:2,1>1:100");
+        edges.due("the span of two units there", x.loneSpan(1), 2);
+        x = edges.object();
+        x.setCapacity(0, 4);
+        x.setCapacity(15, 4);
+        Checks.group(x, "0>1:5,0>2:5,0>3:5");
+        edges.due("the span at a narrow sender", x.loneSpan(0), 5);
+        Checks.group(x, "1>7:5,2>7:5,3>7:5");
+        edges.due("the span at a narrow receiver", x.loneSpan(1), 5);
     }
 
     private void spanOfWhatIsNotDone() {

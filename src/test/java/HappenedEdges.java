@@ -97,19 +97,19 @@ final class HappenedEdges {
         x.pass(1);
         edges.due("eventCount() a tick later: it is done", x.eventCount(), 2);
         latest(x, 0, 1, 0, 4);
-        CoflowSimulator inTime = new CoflowSimulator();
+        CoflowSimulator inTime = edges.object();
         inTime.setRules(false, true);
         Checks.group(inTime, "0>0:200", 1, 1, 2);
         inTime.pass(10);
         edges.due("eventCount() of a group that is done at the end", inTime.eventCount(), 1);
         latest(inTime, 0, 1, 0, 3);
-        CoflowSimulator off = new CoflowSimulator();
+        CoflowSimulator off = edges.object();
         Checks.group(off, "0>0:101", 0, 1, 1);
         Checks.group(off, "1>1:101", 0, 1, 0);
         off.pass(1);
         edges.due("eventCount() with deadlines off, of one group with and one without a deadline", off.eventCount(), 1);
         latest(off, 0, 4, 0, 1);
-        CoflowSimulator arriving = new CoflowSimulator();
+        CoflowSimulator arriving = edges.object();
         Checks.group(arriving, "0>0:500", 1, 1, 0);
         Checks.group(arriving, "1>1:500", 1, 1, 1);
         arriving.pass(1);
@@ -117,7 +117,7 @@ final class HappenedEdges {
         arriving.pass(1);
         edges.due("eventCount() a tick behind the arrival", arriving.eventCount(), 1);
         latest(arriving, 0, 4, 1, 2);
-        CoflowSimulator refused = new CoflowSimulator();
+        CoflowSimulator refused = edges.object();
         refused.setRules(true, true);
         Checks.group(refused, "0>0:101", 0, 1, 1);
         refused.pass(5);
@@ -165,7 +165,7 @@ final class HappenedEdges {
         x.undo();
         latest(x, 19, 2, 0, 1);
         latest(x, 0, 2, 1, 20);
-        CoflowSimulator many = new CoflowSimulator();
+        CoflowSimulator many = edges.object();
         preempt(many, 47);
         for (int back = 0; back < 20; back++) {
             latest(many, back, 2, back % 2, 47 - back);

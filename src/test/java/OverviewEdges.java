@@ -111,8 +111,8 @@ final class OverviewEdges {
     }
 
     private void latestOf512() {
-        CoflowSimulator x = says("An object is used for at most 512 calls after it has been made; what later calls answer "
-                + "is free.");
+        says("An object is used for at most 512 calls after it has been made; what later calls answer is free.");
+        CoflowSimulator x = new CoflowSimulator();
         for (int i = 0; i < MOST_CALLS - 1; i++) {
             edges.due("pass(500)", x.pass(500), 0);
         }
@@ -129,7 +129,8 @@ final class OverviewEdges {
 
     /** The greatest times that 512 calls can bring still give the order, the deadline and the end their due. */
     private void latestTimes() {
-        CoflowSimulator x = says("An object is used for at most 512 calls after it has been made;");
+        says("An object is used for at most 512 calls after it has been made;");
+        CoflowSimulator x = new CoflowSimulator();
         x.setRules(true, true);
         for (int i = 0; i < 490; i++) {
             x.pass(500);
@@ -156,7 +157,8 @@ final class OverviewEdges {
 
     /** The dearest calls, on the most groups, flows and units. */
     private void dearCalls() {
-        CoflowSimulator x = says("An object is used for at most 512 calls after it has been made;");
+        says("An object is used for at most 512 calls after it has been made;");
+        CoflowSimulator x = new CoflowSimulator();
         Checks.setAll(x, 10);
         for (int group = 0; group < 12; group++) {
             for (int flow = 0; flow < 16; flow++) {

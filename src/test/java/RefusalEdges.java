@@ -128,7 +128,7 @@ final class RefusalEdges {
         x.dropDraft();
         edges.due("addGroup(0, 0, 0): BAD_VALUE before BAD_STATE and FULL", x.addGroup(0, 0, 0), Edges.BAD_VALUE);
         edges.due("addGroup(0, 1, 0): BAD_STATE before FULL", x.addGroup(0, 1, 0), Edges.BAD_STATE);
-        CoflowSimulator y = new CoflowSimulator();
+        CoflowSimulator y = edges.object();
         edges.due("addGroup(0, 0, 0): BAD_VALUE before BAD_STATE", y.addGroup(0, 0, 0), Edges.BAD_VALUE);
         edges.due("bestOrderAt(0): BAD_INDEX before BAD_STATE", y.bestOrderAt(0), Edges.BAD_INDEX);
     }

@@ -29,8 +29,8 @@ final class SettingsEdges {
         manyCalls();
     }
 
-    private static CoflowSimulator withDeadlines() {
-        CoflowSimulator x = new CoflowSimulator();
+    private CoflowSimulator withDeadlines() {
+        CoflowSimulator x = edges.object();
         x.setRules(false, true);
         return x;
     }
@@ -214,7 +214,7 @@ final class SettingsEdges {
             }
             oneFlow(y);
         }, y -> y.addGroup(0, 1, 1), Edges.FULL);
-        x = new CoflowSimulator();
+        x = edges.object();
         fullWithDraft(x);
         x.undo();
         x.undo();
@@ -233,6 +233,7 @@ final class SettingsEdges {
     /** A flow of such a size fits at sender 0 and some receiver within ten ticks, but not a unit more. */
     private void justFits(String what, CoflowSimulator x, int receiver, int size) {
         edges.due(what + ": " + size + " fit", tried(x, 0, receiver, size, 10), 1);
+        edges.due(what + ": " + size + " fit beside what was taken back", tried(x, 0, receiver, size, 10), 1);
         edges.due(what + ": " + (size + 1) + " don't fit", tried(x, 0, receiver, size + 1, 10), 3);
     }
 
@@ -275,6 +276,12 @@ final class SettingsEdges {
         edges.due("the first flow is done", x.flowPart(0, 0, 3), 0);
         edges.due("the group is active", x.state(0), 1);
         justFits("beside a flow that is done, of an active group", x, 2, 1000);
+        x = withDeadlines();
+        for (int flow = 0; flow < 16; flow++) {
+            x.flow(0, flow % 8, 10);
+        }
+        x.addGroup(0, 1, 10);
+        justFits("beside sixteen flows of one unit a tick", x, 0, 840);
     }
 
     private void committedGroups() {
@@ -618,7 +625,7 @@ final class SettingsEdges {
     private void savedStates() {
         edges.says(0, "The methods that are said to be undoable save the whole state, except the text, before each call "
                 + "that returns no error, even if it changes nothing.");
-        CoflowSimulator x = new CoflowSimulator();
+        CoflowSimulator x = edges.object();
         x.setCapacity(0, 100);
         x.setPolicy(0);
         x.setRules(true, false);
@@ -688,7 +695,7 @@ final class SettingsEdges {
         edges.due("digest() behind it", x.digest(), before[3]);
         edges.due("two flows are left", x.dropDraft(), 2);
         edges.due("undo() of the latest call alone", x.undo(), 0);
-        CoflowSimulator turning = new CoflowSimulator();
+        CoflowSimulator turning = edges.object();
         long[] latest = new long[40];
         int next = 0;
         for (int round = 0; round < 4; round++) {

@@ -69,7 +69,7 @@ final class TickEdges {
             x.setPolicy(policy);
             order("by policy " + policy, x, 0, 1, 2, 3, 4, 5, 6, 7, 8, 9, 10, 11);
         }
-        CoflowSimulator y = new CoflowSimulator();
+        CoflowSimulator y = edges.object();
         y.setRules(true, true);
         for (int i = 0; i < 8; i++) {
             y.flow(i, i, 100 * (9 - i));
@@ -178,7 +178,7 @@ final class TickEdges {
         order("with NONE / 100", x, 0, 3, 2, 5, 4, 1);
         x.setCapacity(0, 0);
         order("with NONE / 3 and NONE / 100", x, 3, 2, 5, 4, 0, 1);
-        CoflowSimulator y = new CoflowSimulator();
+        CoflowSimulator y = edges.object();
         y.setPolicy(5);
         Checks.setAll(y, 1);
         Checks.group(y, "0>0:100000", 0, 100, 0);
@@ -207,7 +207,7 @@ final class TickEdges {
         order("with deadlines on, by policy 1", x, 5, 2, 3, 1, 0, 4);
         x.setRules(true, false);
         order("with deadlines off again", x, 0, 1, 2, 4, 3, 5);
-        CoflowSimulator y = new CoflowSimulator();
+        CoflowSimulator y = edges.object();
         Checks.group(y, "0>0:1");
         Checks.group(y, "1>1:900", 0, 1, 1);
         y.setCapacity(0, 0);
@@ -281,7 +281,7 @@ final class TickEdges {
         edges.due("rest(1)", x.rest(1), 1000);
         x.setCapacity(0, 0);
         x.setRules(false, true);
-        CoflowSimulator y = new CoflowSimulator();
+        CoflowSimulator y = edges.object();
         Checks.group(y, "0>0:100", 0, 1, 50);
         y.setRules(false, true);
         y.setCapacity(0, 0);
@@ -290,7 +290,7 @@ final class TickEdges {
 
     /** The rate of 300 units with the capacity 100, so with the span 3, if the deadline ends in so many ticks. */
     private int rateBefore(int ticks) {
-        CoflowSimulator x = new CoflowSimulator();
+        CoflowSimulator x = edges.object();
         Checks.group(x, "0>0:300", 0, 1, 20);
         Checks.setAll(x, 0);
         if (ticks < 20) {
@@ -312,7 +312,7 @@ final class TickEdges {
         for (int[] pair : rates) {
             edges.due("the rate with " + pair[0] + " ticks left", rateBefore(pair[0]), pair[1]);
         }
-        CoflowSimulator x = new CoflowSimulator();
+        CoflowSimulator x = edges.object();
         x.setRules(false, true);
         Checks.group(x, "0>0:1,0>1:100000", 0, 1, 10000);
         Checks.group(x, "0>0:90");
@@ -323,12 +323,20 @@ final class TickEdges {
         x.setRules(false, false);
         edges.due("nextRate(1, 0) first, with deadlines off", x.nextRate(1, 0), 90);
         edges.due("nextRate(0, 1), with deadlines off", x.nextRate(0, 1), 9);
-        CoflowSimulator y = new CoflowSimulator();
+        CoflowSimulator y = edges.object();
         y.setRules(false, true);
         Checks.group(y, "0>0:300", 0, 1, 5);
         edges.due("pass(4)", y.pass(4), 1);
         edges.due("the rest one tick before the end", y.rest(0), 60);
         edges.due("pass(1)", y.pass(1), 0);
+        Checks.group(y, "0>0:300", 2, 1, 10);
+        y.pass(2);
+        edges.due("nextRate(1, 0) at an arrival later than the beginning", y.nextRate(1, 0), 30);
+        y.pass(4);
+        edges.due("nextRate(1, 0) four ticks later", y.nextRate(1, 0), 30);
+        edges.due("pass(5)", y.pass(5), 1);
+        edges.due("pass(1)", y.pass(1), 0);
+        edges.due("end(1)", y.end(1), 17);
     }
 
     private void spareSharing() {
@@ -352,7 +360,7 @@ final class TickEdges {
         edges.due("nothing is left for the second group", x.nextRate(1, 0), 35);
         edges.due("nothing is left for the second group", x.nextRate(1, 1), 35);
 
-        CoflowSimulator y = new CoflowSimulator();
+        CoflowSimulator y = edges.object();
         Checks.group(y, "0>0:300,1>1:100,1>2:100,2>2:900");
         edges.due("flow 0", y.nextRate(0, 0), 100);
         edges.due("flow 1 before flow 2", y.nextRate(0, 1), 90);
@@ -450,11 +458,22 @@ final class TickEdges {
         edges.due("a preemption behind them", x.preemptions(), 1);
         edges.due("the group that was first", x.event(1, 1), 1);
         edges.due("the time", x.event(1, 2), 4);
-        CoflowSimulator idle = new CoflowSimulator();
+        CoflowSimulator idle = edges.object();
         idle.pass(5);
         Checks.group(idle, "0>0:300");
         idle.pass(1);
         edges.due("idle ticks at the beginning", idle.preemptions(), 0);
+        CoflowSimulator back = edges.object();
+        Checks.group(back, "0>0:300");
+        back.pass(1);
+        back.undo();
+        back.undo();
+        back.undo();
+        back.pass(1);
+        Checks.group(back, "0>0:300");
+        Checks.group(back, "0>0:100");
+        back.pass(1);
+        edges.due("idle ticks behind a group that was taken back", back.preemptions(), 0);
 
         CoflowSimulator y = edges.says(0, "a rejected group is not active.");
         y.setRules(true, true);
